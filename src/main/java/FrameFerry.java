@@ -9,6 +9,8 @@ public final class FrameFerry {
     private static final int FILE_LIMIT = 300;
     private static final int PACKET_LIMIT = 64;
     private static final int FEED_LIMIT = 16;
+    /** TYPE and P, without the check behind them. */
+    private static final int HEADER_BYTES = 5;
     private static final int SENT_FILES = 4;
     private static final int LETTERS = 26;
     private static final int PACKETS_AT_ONCE = 4;
@@ -150,8 +152,8 @@ public final class FrameFerry {
             case 1: return sending.fileNumber();
             case 2: return sending.place;
             case 3: return receiving.done ? 1 : 0;
-            case 4: return receiving.open == null ? NONE : receiving.open.letter;
-            case 5: return receiving.open == null ? NONE : receiving.open.length;
+            case 4: return receiving.openFile == null ? NONE : receiving.openFile.letter;
+            case 5: return receiving.openFile == null ? NONE : receiving.openFile.length;
             case 6: return sending.line.length;
             case 7: return receiving.line.length;
             case 8: return receiving.goodHeaders;
@@ -270,21 +272,21 @@ public final class FrameFerry {
 
     /** Puts headers and packets into a pipe. */
     private static final class Writer {
-        final Check check = new Check();
+        private final Check check = new Check();
+        /** A packet has the check of the header in bytes before it, whatever may have been learned since. */
+        private boolean wide;
 
         void hexHeader(Pipe line, int type, int p) {
             line.add(STAR);
             line.add(STAR);
             line.add(ESCAPE);
             line.add(HEX_FORM);
-            check.begin(false);
-            for (int i = 0; i < 5; i++) {
-                int value = headerByte(type, p, i);
-                check.add(value);
-                addDigits(line, value);
+            checkHeader(type, p, false);
+            for (int i = 0; i < HEADER_BYTES + check.size(); i++) {
+                int value = i < HEADER_BYTES ? headerByte(type, p, i) : check.part(i - HEADER_BYTES);
+                line.add(digit(value >>> 4));
+                line.add(digit(value & 15));
             }
-            addDigits(line, check.part(0));
-            addDigits(line, check.part(1));
             line.add(13);
             line.add(10);
         }
@@ -293,17 +295,15 @@ public final class FrameFerry {
             line.add(STAR);
             line.add(ESCAPE);
             line.add(check32 ? BYTES_32_FORM : BYTES_16_FORM);
-            check.begin(check32);
-            for (int i = 0; i < 5; i++) {
-                int value = headerByte(type, p, i);
-                check.add(value);
-                addEscaped(line, value);
+            wide = check32;
+            checkHeader(type, p, check32);
+            for (int i = 0; i < HEADER_BYTES + check.size(); i++) {
+                addEscaped(line, i < HEADER_BYTES ? headerByte(type, p, i) : check.part(i - HEADER_BYTES));
             }
-            addCheck(line);
         }
 
-        void beginPacket(boolean check32) {
-            check.begin(check32);
+        void beginPacket() {
+            check.begin(wide);
         }
 
         void packetByte(Pipe line, int value) {
@@ -315,22 +315,20 @@ public final class FrameFerry {
             line.add(ESCAPE);
             line.add(end);
             check.add(end);
-            addCheck(line);
-        }
-
-        private void addCheck(Pipe line) {
             for (int i = 0; i < check.size(); i++) {
                 addEscaped(line, check.part(i));
             }
         }
 
-        private static int headerByte(int type, int p, int k) {
-            return k == 0 ? type : (p >>> (8 * (k - 1))) & 255;
+        private void checkHeader(int type, int p, boolean check32) {
+            check.begin(check32);
+            for (int i = 0; i < HEADER_BYTES; i++) {
+                check.add(headerByte(type, p, i));
+            }
         }
 
-        private static void addDigits(Pipe line, int value) {
-            line.add(digit(value >>> 4));
-            line.add(digit(value & 15));
+        private static int headerByte(int type, int p, int k) {
+            return k == 0 ? type : (p >>> (8 * (k - 1))) & 255;
         }
 
         private static int digit(int value) {
@@ -369,7 +367,6 @@ public final class FrameFerry {
 
         private static final int BAD = -1;
         private static final int NO_DIGIT = -1;
-        private static final int HEADER_BYTES = 5;
 
         final byte[] packet = new byte[PACKET_LIMIT];
         int packetSize;
@@ -570,7 +567,8 @@ public final class FrameFerry {
 
         boolean hasFile(int letter) {
             for (int i = 0; i < fileCount; i++) {
-                if (files[i].letter == letter) {
+                StoredFile file = files[i];
+                if (file != null && file.letter == letter) {
                     return true;
                 }
             }
@@ -609,7 +607,7 @@ public final class FrameFerry {
             number = 0;
             place = 0;
             mayCheck32 = false;
-            sendStateAgain();
+            sendForState();
         }
 
         void readAll(Pipe from) {
@@ -627,13 +625,24 @@ public final class FrameFerry {
                 dataIsDue = true;
                 sendPackets();
             } else {
-                sendStateAgain();
+                sendForState();
             }
         }
 
         void sendPackets() {
+            StoredFile file = fileAt(number);
+            if (state != SENDING || file == null) {
+                return;
+            }
+            if (dataIsDue) {
+                writer.bytesHeader(line, DATA, place, mayCheck32);
+                dataIsDue = false;
+            }
             for (int i = 0; i < PACKETS_AT_ONCE && state == SENDING; i++) {
-                sendPacket();
+                sendPacket(file);
+            }
+            if (state == ENDED) {
+                sendForState();
             }
         }
 
@@ -643,18 +652,20 @@ public final class FrameFerry {
                     mayCheck32 = (reader.p & CAN_CHECK_32) != 0;
                     if (state == ASKED || state == ENDED) {
                         goToNextFile();
+                        sendForState();
                     }
                     break;
                 case SKIP:
                     if (hasFileAtHand()) {
                         goToNextFile();
+                        sendForState();
                     }
                     break;
                 case RPOS:
                     goToPlace(reader.p);
                     break;
                 case NAK:
-                    sendStateAgain();
+                    sendForState();
                     break;
                 case FIN:
                     leave();
@@ -676,7 +687,6 @@ public final class FrameFerry {
             } else {
                 state = LEAVING;
             }
-            sendStateAgain();
         }
 
         private void goToPlace(int p) {
@@ -698,7 +708,7 @@ public final class FrameFerry {
         }
 
         /** Sends what belongs to the state; SENDING has its packets instead, and DONE nothing. */
-        private void sendStateAgain() {
+        private void sendForState() {
             StoredFile file = fileAt(number);
             if (state == ASKED) {
                 writer.hexHeader(line, RQINIT, 0);
@@ -706,7 +716,7 @@ public final class FrameFerry {
                 writer.hexHeader(line, FIN, 0);
             } else if (state == NAMED && file != null) {
                 writer.bytesHeader(line, FILE, 0, mayCheck32);
-                writer.beginPacket(mayCheck32);
+                writer.beginPacket();
                 writer.packetByte(line, LETTER_A + file.letter);
                 writer.packetByte(line, file.length >>> 8);
                 writer.packetByte(line, file.length & 255);
@@ -716,17 +726,9 @@ public final class FrameFerry {
             }
         }
 
-        private void sendPacket() {
-            StoredFile file = fileAt(number);
-            if (file == null) {
-                return;
-            }
-            if (dataIsDue) {
-                writer.bytesHeader(line, DATA, place, mayCheck32);
-                dataIsDue = false;
-            }
+        private void sendPacket(StoredFile file) {
             int behind = Math.min(place + size, file.length);
-            writer.beginPacket(mayCheck32);
+            writer.beginPacket();
             for (int i = place; i < behind; i++) {
                 writer.packetByte(line, file.byteAt(i));
             }
@@ -736,7 +738,6 @@ public final class FrameFerry {
             } else {
                 writer.endPacket(line, END_E);
                 state = ENDED;
-                sendStateAgain();
             }
         }
     }
@@ -748,7 +749,7 @@ public final class FrameFerry {
         final Pipe line = new Pipe();
         /** By letter; none before it has been made. */
         final StoredFile[] files = new StoredFile[LETTERS];
-        StoredFile open;
+        StoredFile openFile;
         boolean done = true;
         int goodHeaders;
         int badHeaders;
@@ -771,7 +772,7 @@ public final class FrameFerry {
         }
 
         void beginAnew() {
-            open = null;
+            openFile = null;
             done = false;
             reader.goOutside();
         }
@@ -791,7 +792,7 @@ public final class FrameFerry {
                 return;
             }
             reader.goOutside();
-            answer(open == null ? RINIT : RPOS);
+            answer(openFile == null ? RINIT : RPOS);
         }
 
         private void act(int event) {
@@ -806,7 +807,12 @@ public final class FrameFerry {
                     break;
                 case Reader.GOOD_PACKET:
                     goodPackets++;
-                    takePacket();
+                    if (nameFollows) {
+                        takeName();
+                    } else {
+                        takeContent();
+                    }
+                    reader.passPacket();
                     break;
                 case Reader.BAD_PACKET:
                     badPackets++;
@@ -824,19 +830,23 @@ public final class FrameFerry {
                     break;
                 case FILE:
                     if (!reader.hex) {
-                        open = null;
-                        nameFollows = true;
-                        reader.beginPacket();
+                        openFile = null;
+                        expectPackets(true);
                     }
                     break;
                 case DATA:
-                    if (!reader.hex && open != null) {
-                        takeData();
+                    if (reader.hex || openFile == null) {
+                        break;
+                    }
+                    if (reader.p == openFile.length) {
+                        expectPackets(false);
+                    } else {
+                        answer(RPOS);
                     }
                     break;
                 case EOF:
-                    if (open != null && reader.p == open.length) {
-                        open = null;
+                    if (openFile != null && reader.p == openFile.length) {
+                        openFile = null;
                         answer(RINIT);
                     }
                     break;
@@ -849,22 +859,9 @@ public final class FrameFerry {
             }
         }
 
-        private void takeData() {
-            if (reader.p == open.length) {
-                nameFollows = false;
-                reader.beginPacket();
-            } else {
-                answer(RPOS);
-            }
-        }
-
-        private void takePacket() {
-            if (nameFollows) {
-                takeName();
-            } else {
-                takeContent();
-            }
-            reader.passPacket();
+        private void expectPackets(boolean name) {
+            nameFollows = name;
+            reader.beginPacket();
         }
 
         private void takeName() {
@@ -884,16 +881,16 @@ public final class FrameFerry {
                 file.letter = letter;
                 files[letter] = file;
             }
-            open = file;
+            openFile = file;
             answer(RPOS);
         }
 
         private void takeContent() {
-            if (open == null) {
+            if (openFile == null) {
                 return;
             }
             for (int i = 0; i < reader.packetSize; i++) {
-                open.append(reader.packet[i]);
+                openFile.append(reader.packet[i]);
             }
             if (reader.end == END_Q || reader.end == END_W) {
                 answer(ACK);
@@ -908,7 +905,7 @@ public final class FrameFerry {
             if (type == RINIT) {
                 return canCheck32 ? CAN_CHECK_32 : 0;
             }
-            return open != null && (type == RPOS || type == ACK) ? open.length : 0;
+            return openFile != null && (type == RPOS || type == ACK) ? openFile.length : 0;
         }
     }
 }

@@ -4,7 +4,6 @@ public final class FilesToSendTest {
 
     public static void main(String[] args) {
         newObject();
-        firstSizeIsNotSeenBeforeStart();
         openCounts();
         openRefuses();
         argumentComesFirst();
@@ -28,13 +27,9 @@ public final class FilesToSendTest {
         DUE.is("pipe of a new object", x.pipe(false, 0), FrameFerry.NONE);
         DUE.is("sender of a new object", x.sender(), 0);
         DUE.is("receiver of a new object", x.receiver(), 0);
-        DUE.is("clear of a new object", x.clear(), 0);
-    }
-
-    private static void firstSizeIsNotSeenBeforeStart() {
-        FrameFerry x = new FrameFerry();
         DUE.is("late of a DONE sender", x.late(true), 0);
         DUE.is("late of a DONE receiver", x.late(false), 0);
+        DUE.is("clear of a new object", x.clear(), 0);
     }
 
     private static void openCounts() {
