@@ -390,19 +390,14 @@ public final class FrameFerry {
 
         void beginPacket() {
             where = IN_PACKET;
-            escaped = false;
             packetSize = 0;
-            checkSize = 0;
-            checkFits = true;
-            check.begin(check32);
+            beginCheck();
         }
 
-        /** The packet stays to be looked at until its owner passes on from it. */
+        /** A good packet stays to be looked at until its owner passes on from it. */
         void passPacket() {
             if (end == END_G || end == END_Q) {
                 beginPacket();
-            } else {
-                goOutside();
             }
         }
 
@@ -430,12 +425,16 @@ public final class FrameFerry {
             where = IN_HEADER;
             hex = form == HEX_FORM;
             check32 = form == BYTES_32_FORM;
-            escaped = false;
             highDigit = NO_DIGIT;
             headerSize = 0;
+            p = 0;
+            beginCheck();
+        }
+
+        private void beginCheck() {
+            escaped = false;
             checkSize = 0;
             checkFits = true;
-            p = 0;
             check.begin(check32);
         }
 

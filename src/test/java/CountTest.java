@@ -106,5 +106,13 @@ public final class CountTest {
         DUE.is("the latest place", x.count(2), 10);
         x.start(false, 64);
         DUE.is("behind start", x.count(2), 0);
+        FrameFerry y = Rig.withFile(1, 65);
+        y.open(2);
+        y.start(false, 64);
+        Rig.toSender(DUE, y, Frames.hex(Frames.RINIT, 0));
+        Rig.toSender(DUE, y, Frames.hex(Frames.SKIP, 0));
+        DUE.is("the second one", y.count(1), 1);
+        y.start(false, 64);
+        DUE.is("0 in STATE 0", y.count(1), 0);
     }
 }

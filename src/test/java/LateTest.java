@@ -102,9 +102,15 @@ public final class LateTest {
         Rig.toReceiver(DUE, x, Frames.join(Frames.bytes(Frames.DATA, 0, false), new int[] {1, 2, 24}));
         DUE.same("RPOS", lateOf(x, false), Frames.hex(Frames.RPOS, 0));
         DUE.same("a PACKET is given up", Rig.toReceiver(DUE, x, Frames.hex(Frames.RQINIT, 0)), RINIT);
+        Rig.toReceiver(DUE, x, 42, 24, 65, 24);
+        DUE.same("RPOS", lateOf(x, false), Frames.hex(Frames.RPOS, 0));
+        DUE.same("an escape is given up", Rig.toReceiver(DUE, x, Frames.bytes(Frames.RQINIT, 0, false)), RINIT);
+        Rig.toReceiver(DUE, x, java.util.Arrays.copyOf(Frames.hex(Frames.RQINIT, 0), 9));
+        x.late(false);
+        DUE.same("half a byte is given up", Rig.toReceiver(DUE, x, Frames.hex(Frames.RQINIT, 0)), RINIT);
         DUE.is("no BAD HEADER", x.count(9), 0);
         DUE.is("no BAD PACKET", x.count(11), 0);
-        DUE.is("good HEADERS", x.count(8), 6);
+        DUE.is("good HEADERS", x.count(8), 8);
     }
 
     private static void receiverReadsNothing() {

@@ -89,10 +89,14 @@ public final class LineTest {
         DUE.is("the fifth of them fits", x.pipe(true, 2999), '0');
         DUE.is("lost in whole, and counted", x.late(true), 20);
         DUE.is("DOWN is full", x.count(6), 3000);
+        DUE.is("lose in the middle of a full one", x.lose(true, 1500, 20), 20);
+        DUE.is("DOWN behind it", x.count(6), 2980);
+        DUE.is("the last one has come nearer", x.pipe(true, 2979), '0');
+        x.late(true);
         x.late(false);
         DUE.is("UP is full", x.count(7), 3000);
         DUE.is("late into a full UP", x.late(false), 20);
-        DUE.is("receiver into a full UP", x.receiver(), 149 * 20);
+        DUE.is("receiver into a full UP", x.receiver(), 20 * x.count(8) + 20 * x.count(9));
         DUE.is("UP is full", x.count(7), 3000);
         DUE.is("DOWN is read", x.count(6), 0);
         DUE.is("at the last place", x.pipe(false, 2999), 10);

@@ -225,6 +225,7 @@ public final class ReceiverTest {
 
     private static void fin() {
         FrameFerry x = opened(3, 9);
+        Rig.toReceiver(DUE, x, data(0, Frames.E, 1, 2));
         Rig.put(x, true, Frames.join(Frames.hex(Frames.FIN, 5), Frames.hex(Frames.RQINIT, 0)));
         DUE.is("FIN", x.receiver(), 20);
         DUE.same("FIN", Look.pipe(x, false), Frames.hex(Frames.FIN, 0));
@@ -233,13 +234,14 @@ public final class ReceiverTest {
         DUE.same("what is left stays", Look.pipe(x, true), left);
         DUE.is("it reads nothing more", x.receiver(), 0);
         DUE.same("what is left stays", Look.pipe(x, true), left);
-        DUE.is("good HEADERS", x.count(8), 2);
+        DUE.is("good HEADERS", x.count(8), 3);
         DUE.is("late", x.late(false), 0);
         DUE.is("nothing told that it is closed", x.count(4), 3);
     }
 
     private static void badHeader() {
         FrameFerry x = opened(3, 9);
+        Rig.toReceiver(DUE, x, data(0, Frames.E, 1, 2));
         DUE.same("NAK has P 0", Rig.toReceiver(DUE, x, 42, 24, 66, 'x'), NAK);
         DUE.is("it stays open", x.count(4), 3);
         DUE.is("BAD HEADERS", x.count(9), 1);
