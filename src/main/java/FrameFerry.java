@@ -281,7 +281,10 @@ public final class FrameFerry {
             line.add(STAR);
             line.add(ESCAPE);
             line.add(HEX_FORM);
-            checkHeader(type, p, false);
+            check.begin(false);
+            for (int i = 0; i < HEADER_BYTES; i++) {
+                check.add(headerByte(type, p, i));
+            }
             for (int i = 0; i < HEADER_BYTES + check.size(); i++) {
                 int value = i < HEADER_BYTES ? headerByte(type, p, i) : check.part(i - HEADER_BYTES);
                 line.add(digit(value >>> 4));
@@ -296,9 +299,14 @@ public final class FrameFerry {
             line.add(ESCAPE);
             line.add(check32 ? BYTES_32_FORM : BYTES_16_FORM);
             wide = check32;
-            checkHeader(type, p, check32);
-            for (int i = 0; i < HEADER_BYTES + check.size(); i++) {
-                addEscaped(line, i < HEADER_BYTES ? headerByte(type, p, i) : check.part(i - HEADER_BYTES));
+            check.begin(check32);
+            for (int i = 0; i < HEADER_BYTES; i++) {
+                int value = headerByte(type, p, i);
+                check.add(value);
+                addEscaped(line, value);
+            }
+            for (int i = 0; i < check.size(); i++) {
+                addEscaped(line, check.part(i));
             }
         }
 
@@ -317,13 +325,6 @@ public final class FrameFerry {
             check.add(end);
             for (int i = 0; i < check.size(); i++) {
                 addEscaped(line, check.part(i));
-            }
-        }
-
-        private void checkHeader(int type, int p, boolean check32) {
-            check.begin(check32);
-            for (int i = 0; i < HEADER_BYTES; i++) {
-                check.add(headerByte(type, p, i));
             }
         }
 
@@ -830,7 +831,8 @@ public final class FrameFerry {
                 case FILE:
                     if (!reader.hex) {
                         openFile = null;
-                        expectPackets(true);
+                        nameFollows = true;
+                        reader.beginPacket();
                     }
                     break;
                 case DATA:
@@ -838,7 +840,8 @@ public final class FrameFerry {
                         break;
                     }
                     if (reader.p == openFile.length) {
-                        expectPackets(false);
+                        nameFollows = false;
+                        reader.beginPacket();
                     } else {
                         answer(RPOS);
                     }
@@ -856,11 +859,6 @@ public final class FrameFerry {
                 default:
                     break;
             }
-        }
-
-        private void expectPackets(boolean name) {
-            nameFollows = name;
-            reader.beginPacket();
         }
 
         private void takeName() {
