@@ -92,6 +92,11 @@ final class Frames {
         return join(bytes(FILE, 0, check32), packet(W, check32, 97 + letter, length >> 8, length & 255));
     }
 
+    /** DATA and one packet, with CHECK 16. */
+    static int[] data(int p, int end, int... bytes) {
+        return join(bytes(DATA, p, false), packet(end, false, bytes));
+    }
+
     static int[] join(int[]... rows) {
         int many = 0;
         for (int[] row : rows) {

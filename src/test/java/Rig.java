@@ -34,6 +34,50 @@ final class Rig {
         return x;
     }
 
+    /** A sender in this STATE: its one file is letter 2, the bytes 0 .. 99, in packets of 8 with CHECK 16. */
+    static FrameFerry inState(int state) {
+        FrameFerry x = withFile(2, Frames.rising(0, 100));
+        x.start(false, 8);
+        int[][] answers = {Frames.hex(Frames.RINIT, 0), Frames.hex(Frames.RPOS, 0), Frames.hex(Frames.RPOS, 100),
+            Frames.hex(Frames.RINIT, 0), Frames.hex(Frames.FIN, 0)};
+        for (int i = 0; i < state; i++) {
+            put(x, false, answers[i]);
+            x.sender();
+        }
+        x.lose(true, 0, 3000);
+        return x;
+    }
+
+    /** A receiver that has just opened this file, and got nothing of it. */
+    static FrameFerry opened(Due due, int letter, int length) {
+        FrameFerry x = waiting(false);
+        due.same("RPOS", toReceiver(due, x, Frames.name(letter, length, false)), Frames.hex(Frames.RPOS, 0));
+        return x;
+    }
+
+    /** A receiver that has this file open, with these bytes of it (at most 64). */
+    static FrameFerry holding(Due due, int letter, int length, int... bytes) {
+        FrameFerry x = opened(due, letter, length);
+        toReceiver(due, x, Frames.data(0, Frames.E, bytes));
+        due.is("POSITION", x.count(5), bytes.length);
+        return x;
+    }
+
+    /** Both sides take turns: the receiver and the sender, so many times. */
+    static void rounds(FrameFerry x, int many) {
+        for (int i = 0; i < many; i++) {
+            x.receiver();
+            x.sender();
+        }
+    }
+
+    /** Fills DOWN or UP to its last byte: a sender in STATE 0, a receiver that is not DONE. */
+    static void fill(FrameFerry x, boolean down) {
+        for (int i = 0; i < 150; i++) {
+            x.late(down);
+        }
+    }
+
     /**
      * Makes a pipe hold just these bytes: bytes are got by late, cut, and turned bit by bit. DOWN wants
      * a sender that repeats itself (not SENDING, not DONE), UP a receiver that is not DONE.
