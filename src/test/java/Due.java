@@ -109,7 +109,9 @@ final class Due {
     }
 
     void end() {
-        if (doc != null && !doc.untested().isEmpty()) {
+        if (doc == null && !section.isEmpty()) {
+            System.out.println("the document is not at hand: the names of these tests were not looked up in it");
+        } else if (doc != null && !doc.untested().isEmpty()) {
             tell(section + " has words without a test: " + doc.untested());
         }
         System.out.println(asked + " answers looked at, " + wrong + " not as due");

@@ -97,9 +97,12 @@ public final class Promise05StartTest {
         }
         FrameFerry y = Rig.withFile(3);
         y.start(false, 8);
-        Rig.toSender(DUE, y, 42, 24, 65, 24);
+        Rig.toSender(DUE, y, 42, 24, 65);
         y.start(false, 8);
-        DUE.same("the sender begins, too", Rig.toSender(DUE, y, Frames.hex(Frames.RINIT, 0)), Frames.name(3, 0, false));
+        y.late(false);
+        y.lose(true, 0, 3000);
+        y.sender();
+        DUE.same("the sender begins, too", Look.pipe(y, true), Frames.name(3, 0, false));
     }
 
     private static void notDone() {
