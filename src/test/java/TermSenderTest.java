@@ -160,6 +160,9 @@ public final class TermSenderTest {
         DUE.same("the last one has it not", Rig.toSender(DUE, y, RINIT), Frames.name(4, 2, false));
         Rig.toSender(DUE, y, rpos(2));
         DUE.same("the last one has it", Rig.toSender(DUE, y, RINIT_32), Frames.name(0, 0, true));
+        FrameFerry z = named(8, 5, 6);
+        DUE.same("the last one, though it comes in STATE 1", Rig.toSender(DUE, z, Frames.join(RINIT_32, rpos(0))),
+            ended(2, true, 0, 5, 6));
     }
 
     private static void rposByState() {
