@@ -9,15 +9,19 @@ final class Doc {
     private final String text;
     private final boolean[] tested;
 
-    /** A section "Promise n: name" without the call's own line, or the paragraph of Terms that begins so. */
+    /** A section (a promise's without the call's own line), or the paragraph of Terms that begins so. */
     Doc(String section) {
-        String all = wholeText();
-        text = all == null ? null : plain(section.startsWith("Promise ") ? promise(all, section) : term(all, section));
+        String all = read(PLACE);
+        text = all == null ? null : plain(isSection(all, section) ? words(all, section) : term(all, section));
         tested = new boolean[text == null ? 0 : text.length()];
     }
 
     boolean isThere() {
         return text != null;
+    }
+
+    String text() {
+        return text == null ? "" : text;
     }
 
     /** Whether these words stand in the section; from now on they count as tested. */
@@ -44,22 +48,29 @@ final class Doc {
         return left.replaceAll("\\b(and|or|but|so)\\b", "").isBlank() ? "" : left;
     }
 
-    private static String wholeText() {
+    /** The whole of a file, or null. */
+    static String read(Path place) {
         try {
-            return Files.readString(PLACE);
+            return Files.readString(place);
         } catch (IOException e) {
             return null;
         }
     }
 
-    private static String promise(String all, String section) {
-        int from = all.indexOf("## " + section + "\n");
-        if (from < 0) {
-            return "";
-        }
+    /** One space between words, whatever the lines. */
+    static String plain(String part) {
+        return part.replaceAll("\\s+", " ").trim();
+    }
+
+    private static boolean isSection(String all, String name) {
+        return all.contains("\n## " + name + "\n");
+    }
+
+    private static String words(String all, String section) {
+        int from = all.indexOf("\n## " + section + "\n") + 1;
         int to = all.indexOf("\n## ", from);
         String body = all.substring(all.indexOf('\n', from), to < 0 ? all.length() : to);
-        return body.substring(body.lastIndexOf("`: ") + 3);
+        return section.startsWith("Promise ") ? body.substring(body.lastIndexOf("`: ") + 3) : body;
     }
 
     /** A block of text right behind the paragraph belongs to it. */
@@ -74,9 +85,5 @@ final class Doc {
             to = all.indexOf("```", block + 3);
         }
         return all.substring(from, to).replace("```text", "");
-    }
-
-    private static String plain(String part) {
-        return part.replaceAll("\\s+", " ").trim();
     }
 }

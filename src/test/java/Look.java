@@ -16,8 +16,8 @@ final class Look {
     static int[] got(FrameFerry x, int letter) {
         int[] bytes = new int[301];
         int many = 0;
-        while (many < bytes.length && x.got(letter, many) != FrameFerry.NONE) {
-            bytes[many] = x.got(letter, many);
+        for (int next = x.got(letter, 0); many < bytes.length && next != FrameFerry.NONE; next = x.got(letter, many)) {
+            bytes[many] = next;
             many++;
         }
         return Arrays.copyOf(bytes, many);

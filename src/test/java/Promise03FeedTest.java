@@ -97,14 +97,16 @@ public final class Promise03FeedTest {
     }
 
     private static void many() {
-        FrameFerry x = filled(5);
         int[] wrong = {-1, 17, 256, Integer.MIN_VALUE, Integer.MAX_VALUE};
         for (int many : wrong) {
+            FrameFerry x = filled(5);
             DUE.argument("feed(" + many + ")", x, () -> x.feed(many, -1, -1, -1, -1));
+            DUE.is("as before", x.feed(0, 0, 0, 0, 0), 5);
+            DUE.same("as before", sentOf(x, 2), Frames.times(5, 65));
         }
-        DUE.is("as before", x.feed(0, 0, 0, 0, 0), 5);
-        DUE.same("as before", sentOf(x, 2), Frames.times(5, 65));
-        DUE.argument("in STATE 0 too", x, () -> x.feed(17, 0, 0, 0, 0));
+        FrameFerry begun = filled(5);
+        begun.start(false, 2);
+        DUE.argument("in STATE 0 too", begun, () -> begun.feed(17, 0, 0, 0, 0));
         FrameFerry none = new FrameFerry();
         DUE.argument("without a file too", none, () -> none.feed(-1, 0, 0, 0, 0));
     }

@@ -179,16 +179,14 @@ public final class Promise05StartTest {
     }
 
     private static void wrongSizes() {
-        FrameFerry x = new FrameFerry();
-        FrameFerry y = Rig.inState(2);
         int[] wrong = {0, 65, -1, 128, Integer.MIN_VALUE, Integer.MAX_VALUE};
         for (int size : wrong) {
+            FrameFerry x = new FrameFerry();
+            FrameFerry y = Rig.inState(2);
             DUE.argument("start(" + size + ") of a new object", x, () -> x.start(true, size));
             DUE.argument("start(" + size + ") in STATE 2", y, () -> y.start(true, size));
         }
-        x.start(false, 1);
-        DUE.is("SIZE 1", x.count(0), 0);
-        y.start(false, 64);
-        DUE.is("SIZE 64", y.count(0), 0);
+        DUE.is("SIZE 1", Rig.started(false, 1).count(0), 0);
+        DUE.is("SIZE 64", Rig.started(false, 64).count(0), 0);
     }
 }

@@ -14,11 +14,12 @@ public final class Promise07ReceiverTest {
         x.receiver();
         DUE.is("DOWN", x.count(6), 0);
         DUE.is("good HEADERS", x.count(8), 1);
-        Rig.fill(x, true);
-        x.receiver();
-        DUE.is("a full DOWN", x.count(6), 0);
-        DUE.is("good HEADERS", x.count(8), 151);
-        DUE.is("an empty DOWN", x.receiver(), 0);
+        FrameFerry full = Rig.waiting(false);
+        Rig.fill(full, true);
+        full.receiver();
+        DUE.is("a full DOWN", full.count(6), 0);
+        DUE.is("good HEADERS", full.count(8), 150);
+        DUE.is("an empty DOWN", full.receiver(), 0);
         FrameFerry y = Rig.waiting(false);
         Rig.toReceiver(DUE, y, Frames.join(Frames.name(3, 9, false), Frames.data(0, Frames.E, 1, 2),
             Frames.bytes(Frames.EOF, 2, false), Frames.name(4, 9, false)));

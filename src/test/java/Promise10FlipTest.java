@@ -53,9 +53,9 @@ public final class Promise10FlipTest {
     }
 
     private static void wrongBits() {
-        FrameFerry x = Rig.started(false, 8);
         int[] wrong = {-1, 8, 32, Integer.MIN_VALUE, Integer.MAX_VALUE};
         for (int bit : wrong) {
+            FrameFerry x = Rig.started(false, 8);
             DUE.argument("bit " + bit, x, () -> x.flip(true, 0, bit));
             DUE.argument("bit " + bit + " of no byte", x, () -> x.flip(false, -1, bit));
         }

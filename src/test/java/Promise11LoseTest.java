@@ -44,13 +44,20 @@ public final class Promise11LoseTest {
     }
 
     private static void belowZero() {
+        refused(-1, 1);
+        refused(-1, 0);
+        refused(0, -1);
+        refused(9999, -1);
+        refused(-1, -1);
+        refused(Integer.MIN_VALUE, 1);
+        refused(1, Integer.MIN_VALUE);
+        refused(Integer.MIN_VALUE, Integer.MIN_VALUE);
+    }
+
+    private static void refused(int at, int many) {
         FrameFerry x = Rig.started(false, 8);
-        DUE.argument("at -1", x, () -> x.lose(true, -1, 1));
-        DUE.argument("at -1, none", x, () -> x.lose(true, -1, 0));
-        DUE.argument("many -1", x, () -> x.lose(true, 0, -1));
-        DUE.argument("many -1, far behind", x, () -> x.lose(true, 9999, -1));
-        DUE.argument("both", x, () -> x.lose(false, -1, -1));
-        DUE.argument("the least at", x, () -> x.lose(false, Integer.MIN_VALUE, 1));
-        DUE.argument("the least many", x, () -> x.lose(false, 1, Integer.MIN_VALUE));
+        x.late(false);
+        DUE.argument("DOWN, " + at + ", " + many, x, () -> x.lose(true, at, many));
+        DUE.argument("UP, " + at + ", " + many, x, () -> x.lose(false, at, many));
     }
 }

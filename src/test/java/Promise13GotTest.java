@@ -50,9 +50,9 @@ public final class Promise13GotTest {
     }
 
     private static void wrongLetters() {
-        FrameFerry x = Rig.waiting(false);
         int[] wrong = {-1, 26, 97, Integer.MIN_VALUE, Integer.MAX_VALUE};
         for (int letter : wrong) {
+            FrameFerry x = Rig.waiting(false);
             DUE.argument("letter " + letter, x, () -> x.got(letter, 0));
             DUE.argument("letter " + letter + ", no byte", x, () -> x.got(letter, -1));
         }

@@ -126,14 +126,16 @@ public final class Promise14CountTest {
     }
 
     private static void letter() {
-        FrameFerry x = Rig.waiting(false);
-        DUE.is("none", x.count(4), FrameFerry.NONE);
         for (int letter = 0; letter < 26; letter++) {
+            FrameFerry x = Rig.waiting(false);
+            DUE.is("none", x.count(4), FrameFerry.NONE);
             Rig.toReceiver(DUE, x, Frames.name(letter, 5, false));
             DUE.is("open", x.count(4), letter);
+            Rig.toReceiver(DUE, x, Frames.name(25 - letter, 5, false));
+            DUE.is("another one", x.count(4), 25 - letter);
+            Rig.toReceiver(DUE, x, Frames.bytes(Frames.EOF, 0, false));
+            DUE.is("closed", x.count(4), FrameFerry.NONE);
         }
-        Rig.toReceiver(DUE, x, Frames.bytes(Frames.EOF, 0, false));
-        DUE.is("closed", x.count(4), FrameFerry.NONE);
     }
 
     private static void position() {
@@ -188,13 +190,13 @@ public final class Promise14CountTest {
     }
 
     private static void goodHeaders() {
-        FrameFerry x = Rig.waiting(false);
         int[] types = {0, 1, 2, 3, 5, 6, 7, 9, 11, 12, 255};
-        for (int i = 0; i < types.length; i++) {
-            Rig.toReceiver(DUE, x, Frames.hex(types[i], 5));
-            DUE.is("type " + types[i], x.count(8), 2 * i + 1);
-            Rig.toReceiver(DUE, x, Frames.bytes(types[i], 5, true));
-            DUE.is("type " + types[i], x.count(8), 2 * i + 2);
+        for (int type : types) {
+            FrameFerry x = Rig.waiting(false);
+            Rig.toReceiver(DUE, x, Frames.hex(type, 5));
+            DUE.is("type " + type, x.count(8), 1);
+            Rig.toReceiver(DUE, x, Frames.bytes(type, 5, true));
+            DUE.is("type " + type, x.count(8), 2);
         }
         FrameFerry y = Rig.waiting(false);
         Rig.toReceiver(DUE, y, Frames.join(Frames.hex(Frames.FILE, 0), Frames.hex(Frames.DATA, 0), Frames.data(0, Frames.E, 1)));
@@ -235,16 +237,17 @@ public final class Promise14CountTest {
         FrameFerry x = Rig.waiting(false);
         Rig.toReceiver(DUE, x, Frames.join(Frames.bytes(Frames.FILE, 0, false), new int[] {24, 0}));
         DUE.same("behind FILE", counted(x), 1, 0, 0, 1);
-        Rig.toReceiver(DUE, x, Frames.join(Frames.name(3, 5, false), Frames.bytes(Frames.DATA, 0, false), Frames.times(65, 1)));
-        DUE.same("the 65th byte", counted(x), 3, 0, 1, 2);
-        Rig.toReceiver(DUE, x, Frames.join(Frames.bytes(Frames.DATA, 0, false), new int[] {24, Frames.E, 0, 0}));
-        DUE.same("a wrong CHECK", counted(x), 4, 0, 1, 3);
+        FrameFerry y = Rig.opened(DUE, 3, 5);
+        Rig.toReceiver(DUE, y, Frames.join(Frames.bytes(Frames.DATA, 0, false), Frames.times(65, 49)));
+        DUE.same("the 65th byte", counted(y), 2, 0, 1, 1);
+        Rig.toReceiver(DUE, y, Frames.join(Frames.bytes(Frames.DATA, 0, false), new int[] {24, Frames.E, 0, 0}));
+        DUE.same("a wrong CHECK", counted(y), 3, 0, 1, 2);
     }
 
     private static void another() {
-        FrameFerry x = Rig.started(true, 3);
         int[] wrong = {-1, 12, 256, Integer.MIN_VALUE, Integer.MAX_VALUE};
         for (int what : wrong) {
+            FrameFerry x = Rig.started(true, 3);
             DUE.argument("count(" + what + ")", x, () -> x.count(what));
         }
     }

@@ -63,6 +63,24 @@ final class Rig {
         return x;
     }
 
+    /**
+     * A receiver that got the bytes 0, 1, 2 .. of this file, so many, from the sender itself, and has it
+     * open still: EOF was lost on its way.
+     */
+    static FrameFerry reached(int letter, int position) {
+        FrameFerry x = withFile(letter, Frames.rising(0, position));
+        x.start(false, 64);
+        rounds(x, 1);
+        for (int i = 0; i < 3 && x.count(0) != 3; i++) {
+            x.receiver();
+            x.sender();
+        }
+        int eof = Frames.bytes(Frames.EOF, position, false).length;
+        x.lose(true, x.count(6) - eof, eof);
+        x.receiver();
+        return x;
+    }
+
     /** Both sides take turns: the receiver and the sender, so many times. */
     static void rounds(FrameFerry x, int many) {
         for (int i = 0; i < many; i++) {
@@ -80,20 +98,27 @@ final class Rig {
 
     /**
      * Makes a pipe hold just these bytes: bytes are got by late, cut, and turned bit by bit. DOWN wants
-     * a sender that repeats itself (not SENDING, not DONE), UP a receiver that is not DONE.
+     * a sender that repeats itself (not SENDING, not DONE), UP a receiver that is not DONE. What late
+     * sends is always the same, so it is looked at once: an object has no more than 512 calls.
      */
     static void put(FrameFerry x, boolean down, int... bytes) {
         x.lose(down, 0, 3000);
-        for (int i = 0; i <= bytes.length && x.count(down ? 6 : 7) < bytes.length; i++) {
+        int each = bytes.length == 0 ? 0 : x.late(down);
+        for (int has = each; has < bytes.length && each > 0; has += each) {
             x.late(down);
         }
         x.lose(down, bytes.length, 3000);
-        for (int k = 0; k < bytes.length; k++) {
-            int wrong = x.pipe(down, k) ^ bytes[k];
-            for (int bit = 0; bit < 8; bit++) {
-                if ((wrong >> bit & 1) != 0) {
-                    x.flip(down, k, bit);
-                }
+        int[] there = new int[each];
+        for (int k = 0; k < bytes.length && each > 0; k++) {
+            there[k % each] = k < each ? x.pipe(down, k) : there[k % each];
+            turn(x, down, k, there[k % each] ^ bytes[k]);
+        }
+    }
+
+    private static void turn(FrameFerry x, boolean down, int k, int bits) {
+        for (int bit = 0; bit < 8; bit++) {
+            if ((bits >> bit & 1) != 0) {
+                x.flip(down, k, bit);
             }
         }
     }

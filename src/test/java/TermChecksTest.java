@@ -86,6 +86,22 @@ public final class TermChecksTest {
         DUE.same("RQINIT is all zeros, and so is its check", Look.pipe(Rig.started(false, 8), true),
             42, 42, 24, 66, 48, 48, 48, 48, 48, 48, 48, 48, 48, 48, 48, 48, 48, 48, 13, 10);
         DUE.same("zeros before change nothing", checkOf(false, 0, 0, 0, 7), checkOf(false, 7));
+        FrameFerry x = withoutLead(false);
+        DUE.is("behind its own check it is 0 again, so that two PACKETS are read as one", x.count(11), 0);
+        int[] check = Frames.check(new int[] {65, 66, Frames.G}, false);
+        DUE.same("what is between is read, too", Look.got(x, 3), 65, 66, Frames.G, check[0], check[1], 67, 68);
+    }
+
+    /** A receiver that has read two PACKETS with two bytes each, the 24 before the first one's END being lost. */
+    private static FrameFerry withoutLead(boolean check32) {
+        FrameFerry x = Rig.withFile(3, 65, 66, 67, 68);
+        x.start(check32, 2);
+        Rig.rounds(x, 2);
+        int at = Frames.bytes(Frames.DATA, 0, check32).length + 2;
+        DUE.is("the byte that is lost", x.pipe(true, at), 24);
+        x.lose(true, at, 1);
+        x.receiver();
+        return x;
     }
 
     private static void check32() {
@@ -101,6 +117,9 @@ public final class TermChecksTest {
         DUE.same("of three zeros and E", checkOf(true, 0, 0, 0), Frames.check(withEnd(0, 0, 0), true));
         DUE.is("zeros before change it", Arrays.equals(checkOf(true, 0, 0, 0), checkOf(true, 0, 0, 0, 0)), false);
         DUE.same("of E alone", checkOf(true), Frames.check(withEnd(), true));
+        FrameFerry x = withoutLead(true);
+        DUE.is("behind its own check it is not as at the beginning", x.count(11), 1);
+        DUE.is("POSITION", x.count(5), 0);
     }
 
     private static void turnedRound() {

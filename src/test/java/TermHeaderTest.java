@@ -16,15 +16,6 @@ public final class TermHeaderTest {
         DUE.end();
     }
 
-    /** A receiver that has the first bytes, 0 upward, of a file of 300. */
-    private static FrameFerry at(int position) {
-        FrameFerry x = Rig.opened(DUE, 3, 300);
-        for (int from = 0; from < position; from += 64) {
-            Rig.toReceiver(DUE, x, Frames.data(from, Frames.E, Frames.rising(from, Math.min(64, position - from))));
-        }
-        return x;
-    }
-
     private static int[] lateOf(FrameFerry x) {
         x.lose(false, 0, 3000);
         x.late(false);
@@ -36,32 +27,33 @@ public final class TermHeaderTest {
     }
 
     private static void lowestFirst() {
-        int[] sent = lateOf(at(299));
+        int[] sent = lateOf(Rig.reached(3, 299));
         DUE.same("299 is 2b 01 00 00", Arrays.copyOfRange(sent, 4, 14), text("092b010000"));
         FrameFerry y = Rig.withFile(3, Frames.times(300, 65));
         y.start(false, 64);
         Rig.toSender(DUE, y, RINIT);
         sent = Rig.toSender(DUE, y, Frames.hex(Frames.RPOS, 299));
         DUE.same("DATA at 299", Arrays.copyOf(sent, 8), 42, 24, 65, 10, 43, 1, 0, 0);
-        FrameFerry x = at(258);
-        DUE.same("DATA at 258 is read", Rig.toReceiver(DUE, x, Frames.data(258, Frames.W, 1)), Frames.hex(Frames.ACK, 259));
-        int[] others = {0x01030000, 0x03010001, 259 << 8, 259 | 1 << 16, 259 | 1 << 24, 259 | 1 << 31};
+        DUE.same("DATA at 258 is read", Rig.toReceiver(DUE, Rig.reached(3, 258), Frames.data(258, Frames.W, 1)),
+            Frames.hex(Frames.ACK, 259));
+        int[] others = {0x01020000, 0x02010001, 258 << 8, 258 | 1 << 16, 258 | 1 << 24, 258 | 1 << 31};
         for (int p : others) {
-            DUE.same("but not at " + p, Rig.toReceiver(DUE, x, Frames.data(p, Frames.W, 1)), Frames.hex(Frames.RPOS, 259));
+            DUE.same("but not at " + p, Rig.toReceiver(DUE, Rig.reached(3, 258), Frames.data(p, Frames.W, 1)),
+                Frames.hex(Frames.RPOS, 258));
         }
     }
 
     private static void inHex() {
         DUE.same("RINIT with 32, as known", lateOf(Rig.waiting(true)),
             Frames.join(new int[] {42, 42, 24, 66}, text("01200000009d1f"), new int[] {13, 10}));
-        DUE.same("RPOS 0, as known", lateOf(at(0)),
+        DUE.same("RPOS 0, as known", lateOf(Rig.reached(3, 0)),
             Frames.join(new int[] {42, 42, 24, 66}, text("0900000000a87c"), new int[] {13, 10}));
         DUE.same("RINIT, as built", lateOf(Rig.waiting(false)), RINIT);
     }
 
     private static void digits() {
         for (int position = 0; position <= 300; position += 5) {
-            DUE.same("RPOS " + position, lateOf(at(position)), Frames.hex(Frames.RPOS, position));
+            DUE.same("RPOS " + position, lateOf(Rig.reached(3, position)), Frames.hex(Frames.RPOS, position));
         }
         for (int i = 0; i < 256; i++) {
             FrameFerry x = Rig.waiting(false);
@@ -94,11 +86,11 @@ public final class TermHeaderTest {
     }
 
     private static void inBytes() {
-        FrameFerry x = Rig.withFile(3, Frames.times(300, 65));
-        x.start(false, 64);
-        int[] sent = Rig.toSender(DUE, x, RINIT);
-        DUE.same("FILE", Arrays.copyOf(sent, 10), Frames.bytes(Frames.FILE, 0, false));
         for (int p = 0; p <= 300; p++) {
+            FrameFerry x = Rig.withFile(3, Frames.times(300, 65));
+            x.start(false, 1);
+            int[] sent = Rig.toSender(DUE, x, RINIT);
+            DUE.same("FILE", Arrays.copyOf(sent, 10), Frames.bytes(Frames.FILE, 0, false));
             int[] want = Frames.bytes(Frames.DATA, p, false);
             sent = Rig.toSender(DUE, x, Frames.hex(Frames.RPOS, p));
             DUE.same("DATA " + p, Arrays.copyOf(sent, want.length), want);
@@ -117,10 +109,10 @@ public final class TermHeaderTest {
     }
 
     private static void inBytes32() {
-        FrameFerry x = Rig.withFile(3, Frames.times(300, 65));
-        x.start(true, 64);
-        Rig.toSender(DUE, x, Frames.hex(Frames.RINIT, 32));
         for (int p = 0; p <= 300; p++) {
+            FrameFerry x = Rig.withFile(3, Frames.times(300, 65));
+            x.start(true, 1);
+            Rig.toSender(DUE, x, Frames.hex(Frames.RINIT, 32));
             int[] want = Frames.bytes(Frames.DATA, p, true);
             int[] sent = Rig.toSender(DUE, x, Frames.hex(Frames.RPOS, p));
             DUE.same("DATA " + p, Arrays.copyOf(sent, want.length), want);

@@ -26,10 +26,12 @@ public final class TermPacketTest {
         FrameFerry x = Rig.opened(DUE, 3, 300);
         DUE.same("64 are read", Rig.toReceiver(DUE, x, Frames.data(0, Frames.W, Frames.rising(0, 64))),
             Frames.hex(Frames.ACK, 64));
-        int[] full = Frames.rising(100, 65);
-        DUE.same("65 are not", Rig.toReceiver(DUE, x, Frames.data(64, Frames.W, full)), Frames.hex(Frames.RPOS, 64));
-        DUE.is("BAD PACKETS", x.count(11), 1);
-        DUE.same("none is read", Rig.toReceiver(DUE, x, Frames.data(64, Frames.W)), Frames.hex(Frames.ACK, 64));
+        FrameFerry y = Rig.opened(DUE, 3, 300);
+        DUE.same("65 are not", Rig.toReceiver(DUE, y, Frames.data(0, Frames.W, Frames.rising(25, 65))),
+            Frames.hex(Frames.RPOS, 0));
+        DUE.is("BAD PACKETS", y.count(11), 1);
+        FrameFerry z = Rig.opened(DUE, 3, 300);
+        DUE.same("none is read", Rig.toReceiver(DUE, z, Frames.data(0, Frames.W)), Frames.hex(Frames.ACK, 0));
     }
 
     private static void bytesAndEnd() {

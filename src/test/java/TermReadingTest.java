@@ -181,25 +181,32 @@ public final class TermReadingTest {
         counted("a BAD byte", x, 2, 0, 1, 1);
         DUE.same("in the CHECK", Rig.toReceiver(DUE, x, Frames.join(data, new int[] {24, Frames.E, 24, 0})), RPOS);
         counted("a BAD byte in the CHECK", x, 3, 0, 1, 2);
-        DUE.same("behind 64", Rig.toReceiver(DUE, x, Frames.join(data, Frames.times(64, 1), new int[] {24, 0})), RPOS);
-        counted("a BAD byte behind 64", x, 4, 0, 1, 3);
+        FrameFerry y = Rig.opened(DUE, 3, 300);
+        DUE.same("behind 64", Rig.toReceiver(DUE, y, Frames.join(data, Frames.times(64, 49), new int[] {24, 0})), RPOS);
+        counted("a BAD byte behind 64", y, 2, 0, 1, 1);
         heard("behind FILE", NAK, Frames.bytes(Frames.FILE, 0, false), new int[] {24, 0});
     }
 
     private static void the65th() {
         int[] data = Frames.bytes(Frames.DATA, 0, false);
         FrameFerry x = Rig.opened(DUE, 3, 300);
-        DUE.same("64 bytes", Rig.toReceiver(DUE, x, Frames.join(data, Frames.times(64, 1))));
+        int[] most = Frames.times(64, 49);
+        DUE.same("64 bytes", Rig.toReceiver(DUE, x, Frames.join(data, most)));
         DUE.same("the 65th", Rig.toReceiver(DUE, x, 1), RPOS);
         counted("the 65th", x, 2, 0, 1, 1);
-        DUE.same("64 bytes and 24", Rig.toReceiver(DUE, x, Frames.join(data, Frames.times(64, 1), new int[] {24})));
-        DUE.same("the 65th, escaped", Rig.toReceiver(DUE, x, 64), RPOS);
-        counted("the 65th, escaped", x, 3, 0, 1, 2);
+        FrameFerry y = Rig.opened(DUE, 3, 300);
+        DUE.same("64 bytes and 24", Rig.toReceiver(DUE, y, Frames.join(data, most, new int[] {24})));
+        DUE.same("the 65th, escaped", Rig.toReceiver(DUE, y, 64), RPOS);
+        counted("the 65th, escaped", y, 2, 0, 1, 1);
         heard("behind FILE", NAK, Frames.bytes(Frames.FILE, 0, false), Frames.times(65, 'a'));
-        DUE.same("64 escaped ones are fine", Rig.toReceiver(DUE, x, Frames.data(0, Frames.W, Frames.times(64, 24))),
-            Frames.hex(Frames.ACK, 64));
-        DUE.same("so is their next one", Rig.toReceiver(DUE, x, Frames.join(Frames.data(64, Frames.G, Frames.times(64, 1)),
-            Frames.packet(Frames.W, false, Frames.times(64, 1)))), Frames.hex(Frames.ACK, 192));
+        FrameFerry turned = Rig.withFile(3, Frames.times(64, 24));
+        turned.start(false, 64);
+        Rig.rounds(turned, 2);
+        turned.receiver();
+        DUE.same("64 escaped ones are fine", Look.got(turned, 3), Frames.times(64, 24));
+        counted("64 escaped ones", turned, 4, 0, 2, 0);
+        DUE.same("so is their next one", Rig.toReceiver(DUE, Rig.opened(DUE, 3, 300),
+            Frames.join(Frames.data(0, Frames.G, most), Frames.packet(Frames.W, false, most))), Frames.hex(Frames.ACK, 128));
     }
 
     private static void wrongCheckOfPacket() {
@@ -254,7 +261,7 @@ public final class TermReadingTest {
         DUE.same("Q", Rig.toReceiver(DUE, x, Frames.data(0, Frames.Q, 1)), Frames.hex(Frames.ACK, 1));
         DUE.same("an empty one with Q", Rig.toReceiver(DUE, x, Frames.packet(Frames.Q, false)), Frames.hex(Frames.ACK, 1));
         DUE.same("G", Rig.toReceiver(DUE, x, Frames.packet(Frames.G, false, 9, 9)));
-        DUE.same("64 bytes more", Rig.toReceiver(DUE, x, Frames.packet(Frames.Q, false, Frames.times(64, 5))),
+        DUE.same("64 bytes more", Rig.toReceiver(DUE, x, Frames.packet(Frames.Q, false, Frames.times(64, 48))),
             Frames.hex(Frames.ACK, 67));
         DUE.same("W", Rig.toReceiver(DUE, x, Frames.packet(Frames.W, false, 9)), Frames.hex(Frames.ACK, 68));
         counted("counts", x, 2, 0, 6, 0);

@@ -46,9 +46,15 @@ public final class TermReceiverTest {
     }
 
     private static void files() {
-        FrameFerry x = Rig.waiting(false);
+        FrameFerry x = new FrameFerry();
         for (int letter = 0; letter < 26; letter++) {
-            Rig.toReceiver(DUE, x, Frames.join(Frames.name(letter, 9, false), Frames.data(0, Frames.E, letter, 7)));
+            x.open(letter);
+            x.feed(2, letter << 24 | 7 << 16, 0, 0, 0);
+            if (letter % 4 == 3 || letter == 25) {
+                x.start(false, 8);
+                Rig.rounds(x, 12);
+                x.clear();
+            }
         }
         for (int letter = 0; letter < 26; letter++) {
             DUE.same("letter " + letter, Look.got(x, letter), letter, 7);
@@ -91,11 +97,12 @@ public final class TermReceiverTest {
         DUE.is("no POSITION", x.count(5), FrameFerry.NONE);
         DUE.same("a PACKET", Rig.toReceiver(DUE, x, Frames.packet(Frames.W, false, 'c', 0, 1)), rpos(0));
         DUE.is("letter", x.count(4), 2);
-        Rig.toReceiver(DUE, x, named(Frames.W, 'c', 0, 0));
-        DUE.is("none is open behind SKIP", x.count(4), FrameFerry.NONE);
-        Rig.toReceiver(DUE, x, Frames.name(2, 9, false));
-        Rig.toReceiver(DUE, x, named(Frames.W, 'C', 0, 9));
-        DUE.is("nor behind NAK", x.count(4), FrameFerry.NONE);
+        FrameFerry y = Rig.opened(DUE, 2, 9);
+        Rig.toReceiver(DUE, y, named(Frames.W, 'c', 0, 0));
+        DUE.is("none is open behind SKIP", y.count(4), FrameFerry.NONE);
+        Rig.toReceiver(DUE, y, Frames.name(2, 9, false));
+        Rig.toReceiver(DUE, y, named(Frames.W, 'C', 0, 9));
+        DUE.is("nor behind NAK", y.count(4), FrameFerry.NONE);
     }
 
     private static void fileNames() {
@@ -104,12 +111,15 @@ public final class TermReceiverTest {
             DUE.same("letter " + letter, Rig.toReceiver(DUE, x, named(Frames.W, letter, 0, 9)), rpos(0));
             DUE.is("letter", x.count(4), letter - 'a');
         }
-        FrameFerry y = Rig.holding(DUE, 3, 9, 1, 2);
-        DUE.same("0 and 2 is 2", Rig.toReceiver(DUE, y, named(Frames.W, 'd', 0, 2)), SKIP);
-        DUE.same("2 and 0 is 512", Rig.toReceiver(DUE, y, named(Frames.W, 'd', 2, 0)), rpos(2));
-        DUE.same("0 and 255 is 255", Rig.toReceiver(DUE, y, named(Frames.W, 'd', 0, 255)), rpos(2));
-        DUE.same("255 and 255 is 65535", Rig.toReceiver(DUE, y, named(Frames.W, 'd', 255, 255)), rpos(2));
-        DUE.same("128 and 0 is 32768", Rig.toReceiver(DUE, y, named(Frames.W, 'd', 128, 0)), rpos(2));
+        int[][] lengths = {{0, 3}, {2, 0}, {0, 255}, {255, 255}, {128, 0}};
+        for (int[] two : lengths) {
+            FrameFerry y = Rig.reached(3, 2);
+            DUE.same("0 and 2 is 2", Rig.toReceiver(DUE, y, named(Frames.W, 'd', 0, 2)), SKIP);
+            DUE.same(two[0] + " and " + two[1] + " is more", Rig.toReceiver(DUE, y, named(Frames.W, 'd', two[0], two[1])),
+                rpos(2));
+        }
+        DUE.same("1 and 1 is 257", Rig.toReceiver(DUE, Rig.reached(3, 257), named(Frames.W, 'd', 1, 1)), SKIP);
+        DUE.same("1 and 2 is 258", Rig.toReceiver(DUE, Rig.reached(3, 257), named(Frames.W, 'd', 1, 2)), rpos(257));
     }
 
     private static void otherNames() {
@@ -127,16 +137,17 @@ public final class TermReceiverTest {
     }
 
     private static void fileSkips() {
-        FrameFerry x = Rig.holding(DUE, 7, 300, 1, 2, 3, 4, 5);
         for (int length = 0; length <= 5; length++) {
+            FrameFerry x = Rig.reached(7, 5);
             DUE.same("it has " + length, Rig.toReceiver(DUE, x, Frames.name(7, length, false)), SKIP);
             DUE.is("none is open", x.count(4), FrameFerry.NONE);
+            DUE.same("what it got stays", Look.got(x, 7), 0, 1, 2, 3, 4);
         }
-        DUE.same("it has not 6", Rig.toReceiver(DUE, x, Frames.name(7, 6, false)), rpos(5));
-        DUE.same("nor 261", Rig.toReceiver(DUE, x, Frames.name(7, 261, false)), rpos(5));
-        DUE.same("nor the next letter", Rig.toReceiver(DUE, x, Frames.name(8, 5, false)), rpos(0));
-        DUE.same("which it has then, empty", Rig.toReceiver(DUE, x, Frames.name(8, 0, false)), SKIP);
-        DUE.same("what it got stays", Look.got(x, 7), 1, 2, 3, 4, 5);
+        DUE.same("it has not 6", Rig.toReceiver(DUE, Rig.reached(7, 5), Frames.name(7, 6, false)), rpos(5));
+        DUE.same("nor 261", Rig.toReceiver(DUE, Rig.reached(7, 5), Frames.name(7, 261, false)), rpos(5));
+        FrameFerry y = Rig.reached(7, 5);
+        DUE.same("nor the next letter", Rig.toReceiver(DUE, y, Frames.name(8, 5, false)), rpos(0));
+        DUE.same("which it has then, empty", Rig.toReceiver(DUE, y, Frames.name(8, 0, false)), SKIP);
     }
 
     private static void fileOpens() {
@@ -146,23 +157,25 @@ public final class TermReceiverTest {
         DUE.is("POSITION", x.count(5), 0);
         DUE.same("another one", Rig.toReceiver(DUE, x, Frames.name(25, 300, false)), rpos(0));
         DUE.is("letter", x.count(4), 25);
-        Rig.toReceiver(DUE, x, Frames.data(0, Frames.E, 5, 6, 7));
-        Rig.toReceiver(DUE, x, Frames.bytes(Frames.EOF, 3, false));
-        DUE.same("one that is there, closed", Rig.toReceiver(DUE, x, Frames.name(25, 4, false)), rpos(3));
-        DUE.same("one that is there, open", Rig.toReceiver(DUE, x, Frames.name(25, 4, false)), rpos(3));
-        DUE.same("with what it got", Look.got(x, 25), 5, 6, 7);
+        FrameFerry y = Rig.reached(25, 3);
+        Rig.toReceiver(DUE, y, Frames.bytes(Frames.EOF, 3, false));
+        DUE.same("one that is there, closed", Rig.toReceiver(DUE, y, Frames.name(25, 4, false)), rpos(3));
+        DUE.same("one that is there, open", Rig.toReceiver(DUE, y, Frames.name(25, 4, false)), rpos(3));
+        DUE.same("with what it got", Look.got(y, 25), 0, 1, 2);
     }
 
     private static void fileBad() {
-        FrameFerry x = Rig.opened(DUE, 3, 9);
-        int[] row = Frames.name(4, 9, false);
-        row[row.length - 1] ^= 1;
-        DUE.same("a wrong CHECK", Rig.toReceiver(DUE, x, row), NAK);
-        DUE.is("none is open", x.count(4), FrameFerry.NONE);
-        DUE.same("24 and 0", Rig.toReceiver(DUE, x, Frames.join(Frames.bytes(Frames.FILE, 0, false), new int[] {24, 0})), NAK);
-        DUE.same("65 bytes", Rig.toReceiver(DUE, x, Frames.join(Frames.bytes(Frames.FILE, 0, false), Frames.times(65, 97))), NAK);
-        DUE.is("BAD PACKETS", x.count(11), 3);
-        DUE.same("nothing is made", Rig.toReceiver(DUE, x, Frames.name(4, 0, false)), rpos(0));
+        int[] file = Frames.bytes(Frames.FILE, 0, false);
+        int[] wrong = Frames.packet(Frames.W, false, 'e', 0, 9);
+        wrong[wrong.length - 1] ^= 1;
+        int[][] packets = {wrong, {24, 0}, Frames.times(65, 97)};
+        for (int[] packet : packets) {
+            FrameFerry x = Rig.opened(DUE, 3, 9);
+            DUE.same("BAD", Rig.toReceiver(DUE, x, Frames.join(file, packet)), NAK);
+            DUE.is("none is open", x.count(4), FrameFerry.NONE);
+            DUE.is("BAD PACKETS", x.count(11), 1);
+            DUE.same("nothing is made", Rig.toReceiver(DUE, x, Frames.name(4, 0, false)), rpos(0));
+        }
     }
 
     private static void dataInHex() {
@@ -215,15 +228,15 @@ public final class TermReceiverTest {
     }
 
     private static void dataElsewhere() {
-        FrameFerry x = Rig.holding(DUE, 3, 9, 1, 2, 3);
         int[] wrong = {0, 2, 4, 259, 0x03000000, -1, Integer.MIN_VALUE, 3 - 65536};
         for (int p : wrong) {
+            FrameFerry x = Rig.holding(DUE, 3, 9, 1, 2, 3);
             DUE.same("DATA at " + p, Rig.toReceiver(DUE, x, Frames.join(Frames.data(p, Frames.W, 4), RQINIT)),
                 Frames.join(rpos(3), RINIT));
+            DUE.is("good PACKETS", x.count(10), 2);
+            DUE.is("BAD PACKETS", x.count(11), 0);
+            DUE.is("nothing is put", x.count(5), 3);
         }
-        DUE.is("good PACKETS", x.count(10), 2);
-        DUE.is("BAD PACKETS", x.count(11), 0);
-        DUE.is("nothing is put", x.count(5), 3);
     }
 
     private static void dataWithout() {
@@ -246,9 +259,9 @@ public final class TermReceiverTest {
     }
 
     private static void eofElsewhere() {
-        FrameFerry x = Rig.holding(DUE, 3, 9, 1, 2);
         int[] wrong = {0, 1, 3, 9, 258, 0x02000000, -1};
         for (int p : wrong) {
+            FrameFerry x = Rig.holding(DUE, 3, 9, 1, 2);
             DUE.same("EOF at " + p, Rig.toReceiver(DUE, x, Frames.bytes(Frames.EOF, p, false)));
             DUE.is("it stays open", x.count(4), 3);
         }
@@ -276,15 +289,15 @@ public final class TermReceiverTest {
     }
 
     private static void others() {
-        FrameFerry x = Rig.holding(DUE, 4, 10, 1);
         int[] types = {1, 2, 3, 5, 6, 7, 9, 12, 13, 99, 255};
         for (int type : types) {
+            FrameFerry x = Rig.holding(DUE, 4, 10, 1);
             DUE.same("type " + type, Rig.toReceiver(DUE, x, Frames.hex(type, 1)));
             DUE.same("type " + type, Rig.toReceiver(DUE, x, Frames.bytes(type, 1, true)));
+            DUE.is("both are good", x.count(8), 4);
+            DUE.is("it stays open", x.count(4), 4);
+            DUE.is("POSITION", x.count(5), 1);
         }
-        DUE.is("all are good", x.count(8), 2 + 2 * types.length);
-        DUE.is("it stays open", x.count(4), 4);
-        DUE.is("POSITION", x.count(5), 1);
     }
 
     private static void done() {
@@ -304,11 +317,10 @@ public final class TermReceiverTest {
     }
 
     private static void numbers() {
-        FrameFerry x = Rig.opened(DUE, 3, 300);
-        for (int at = 0; at < 300; at += 60) {
-            DUE.same("ACK", Rig.toReceiver(DUE, x, Frames.data(at, Frames.W, Frames.times(60, 1))),
-                Frames.hex(Frames.ACK, at + 60));
-            DUE.same("RPOS", Rig.toReceiver(DUE, x, Frames.bytes(Frames.DATA, 7, true)), rpos(at + 60));
+        for (int at = 0; at < 300; at += 37) {
+            FrameFerry x = Rig.reached(3, at);
+            DUE.same("ACK", Rig.toReceiver(DUE, x, Frames.data(at, Frames.W, 1, 2)), Frames.hex(Frames.ACK, at + 2));
+            DUE.same("RPOS", Rig.toReceiver(DUE, x, Frames.bytes(Frames.DATA, 999, true)), rpos(at + 2));
         }
     }
 
@@ -321,24 +333,26 @@ public final class TermReceiverTest {
             DUE.same("NAK", Rig.toReceiver(DUE, x, 42, 24, 66, 0), NAK);
             DUE.same("RINIT for EOF", Rig.toReceiver(DUE, x, Frames.bytes(Frames.EOF, 2, false)), rinit);
             DUE.same("SKIP", Rig.toReceiver(DUE, x, Frames.name(3, 2, false)), SKIP);
-            Rig.toReceiver(DUE, x, Frames.name(3, 9, false));
-            DUE.same("FIN", Rig.toReceiver(DUE, x, Frames.hex(Frames.FIN, 32)), Frames.hex(Frames.FIN, 0));
+            FrameFerry y = Rig.holding(DUE, 3, 9, 1, 2);
+            DUE.same("FIN", Rig.toReceiver(DUE, y, Frames.hex(Frames.FIN, 32)), Frames.hex(Frames.FIN, 0));
         }
     }
 
     private static void atMost300() {
-        FrameFerry x = Rig.opened(DUE, 3, 65535);
-        for (int from = 0; from < 256; from += 64) {
-            Rig.toReceiver(DUE, x, Frames.data(from, Frames.E, Frames.rising(from, 64)));
-        }
-        DUE.same("up to 299", Rig.toReceiver(DUE, x, Frames.data(256, Frames.W, Frames.rising(0, 43))),
-            Frames.hex(Frames.ACK, 299));
+        FrameFerry x = Rig.reached(3, 299);
         DUE.same("one of two", Rig.toReceiver(DUE, x, Frames.data(299, Frames.W, 43, 77)), Frames.hex(Frames.ACK, 300));
         DUE.same("the rest is left out", Look.got(x, 3), Frames.rising(0, 300));
-        DUE.same("none of two", Rig.toReceiver(DUE, x, Frames.data(300, Frames.W, 1, 2)), Frames.hex(Frames.ACK, 300));
-        DUE.is("all were good", x.count(10), 8);
-        DUE.is("none was BAD", x.count(11), 0);
-        DUE.same("it has not 301", Rig.toReceiver(DUE, x, Frames.name(3, 301, false)), rpos(300));
-        DUE.same("it has 300", Rig.toReceiver(DUE, x, Frames.name(3, 300, false)), SKIP);
+        FrameFerry y = Rig.reached(3, 300);
+        DUE.same("none of two", Rig.toReceiver(DUE, y, Frames.data(300, Frames.W, 1, 2)), Frames.hex(Frames.ACK, 300));
+        DUE.is("POSITION", y.count(5), 300);
+        DUE.is("all were good", y.count(10), 7);
+        DUE.is("none was BAD", y.count(11), 0);
+        DUE.same("it has not 301", Rig.toReceiver(DUE, y, Frames.name(3, 301, false)), rpos(300));
+        DUE.same("it has 300", Rig.toReceiver(DUE, y, Frames.name(3, 300, false)), SKIP);
+        FrameFerry z = Rig.reached(3, 280);
+        DUE.same("the first ones of many", Rig.toReceiver(DUE, z, Frames.data(280, Frames.W, Frames.rising(24, 64))),
+            Frames.hex(Frames.ACK, 300));
+        DUE.is("the last of them", z.got(3, 299), 43);
+        DUE.is("no more", z.got(3, 300), FrameFerry.NONE);
     }
 }

@@ -224,12 +224,12 @@ public final class TermSenderTest {
         DUE.same("of the last", Rig.toSender(DUE, x, SKIP), FIN);
         DUE.same("in 4", Rig.toSender(DUE, x, SKIP));
         seen("in 4", x, 4, 3, 0);
-        x.start(false, 8);
-        Rig.toSender(DUE, x, RINIT);
-        Rig.toSender(DUE, x, rpos(0));
-        seen("SENDING", x, 2, 0, 32);
-        DUE.same("in 2", Rig.toSender(DUE, x, SKIP), Frames.name(4, 2, false));
-        seen("in 2", x, 1, 1, 0);
+        FrameFerry z = threeFiles();
+        Rig.toSender(DUE, z, RINIT);
+        Rig.toSender(DUE, z, rpos(0));
+        seen("SENDING", z, 2, 0, 32);
+        DUE.same("in 2", Rig.toSender(DUE, z, SKIP), Frames.name(4, 2, false));
+        seen("in 2", z, 1, 1, 0);
         FrameFerry y = Rig.inState(5);
         DUE.same("in 5", Rig.toSender(DUE, y, SKIP));
         seen("in 5", y, 5, 1, 100);
@@ -270,24 +270,26 @@ public final class TermSenderTest {
 
     private static void others() {
         int[] types = {0, 2, 3, 4, 7, 10, 11, 12, 200, 255};
+        for (int type : types) {
+            nothingComesOf("type " + type + " in HEX", Frames.hex(type, 0));
+            nothingComesOf("type " + type + " in BYTES", Frames.bytes(type, 0, false));
+        }
+        nothingComesOf("a BAD HEADER in HEX", 42, 24, 66, 0);
+        nothingComesOf("a BAD HEADER in BYTES", 42, 24, 65, 24, 0);
+        int[] bad = Frames.hex(Frames.NAK, 0);
+        bad[17] ^= 1;
+        nothingComesOf("a wrong CHECK", bad);
+    }
+
+    /** In STATE 2 it just goes on. */
+    private static void nothingComesOf(String what, int... bytes) {
         for (int state = 0; state <= 5; state++) {
-            if (state == 2) {
-                continue;
-            }
             FrameFerry x = Rig.inState(state);
             int place = x.count(2);
-            for (int type : types) {
-                DUE.same("type " + type, Rig.toSender(DUE, x, Frames.hex(type, 0)));
-                DUE.same("type " + type, Rig.toSender(DUE, x, Frames.bytes(type, 0, false)));
-            }
-            DUE.same("a BAD HEADER", Rig.toSender(DUE, x, 42, 24, 66, 0));
-            DUE.same("a BAD HEADER", Rig.toSender(DUE, x, 42, 24, 65, 24, 0));
-            int[] bad = Frames.hex(Frames.NAK, 0);
-            bad[17] ^= 1;
-            DUE.same("a wrong CHECK", Rig.toSender(DUE, x, bad));
-            seen("all of them", x, state, state < 4 ? 0 : 1, place);
+            boolean goesOn = state == 2;
+            DUE.same(what, Rig.toSender(DUE, x, bytes), goesOn ? packets(Frames.G, 8, 32, 4) : new int[0]);
+            seen(what, x, state, state < 4 ? 0 : 1, goesOn ? place + 32 : place);
         }
-        DUE.same("ACK in 2", Rig.toSender(DUE, Rig.inState(2), Frames.hex(Frames.ACK, 0)), packets(Frames.G, 8, 32, 4));
     }
 
     private static void inBytes() {

@@ -3,11 +3,12 @@ import java.util.Random;
 /** Whole runs over lines that turn and lose bytes: what is got is always what was sent, as far as it goes. */
 public final class TransferTest {
     private static final Due DUE = new Due();
-    private static final int BAD_ROUNDS = 40;
-    private static final int GOOD_ROUNDS = 100;
+    private static final int BAD_ROUNDS = 16;
+    private static final int GOOD_ROUNDS = 60;
+    private static final int LOOKS = 25;
 
     public static void main(String[] args) {
-        for (int seed = 0; seed < 300; seed++) {
+        for (int seed = 0; seed < 600; seed++) {
             run(new Random(seed), seed);
         }
         for (int seed = 0; seed < 300; seed++) {
@@ -29,12 +30,20 @@ public final class TransferTest {
             x.open(letter);
             Rig.feed(x, sent[letter]);
         }
-        int size = 4 + random.nextInt(61);
+        int size = 8 + random.nextInt(57);
         badLine(random, x, size, sent, seed);
         goodLine(x, random.nextBoolean(), size, seed);
         for (int letter = 0; letter < 26; letter++) {
-            int[] want = sent[letter] == null ? new int[0] : sent[letter];
-            DUE.same("seed " + seed + ", letter " + letter, Look.got(x, letter), want);
+            whole(random, x, letter, sent[letter] == null ? new int[0] : sent[letter]);
+        }
+    }
+
+    /** Bytes here and there, its last one, and no more: an object has 512 calls, and that is not enough for all. */
+    private static void whole(Random random, FrameFerry x, int letter, int[] want) {
+        DUE.is("behind the last byte of " + letter, x.got(letter, want.length), FrameFerry.NONE);
+        for (int i = 0; i < LOOKS && i < want.length; i++) {
+            int k = i == 0 ? want.length - 1 : random.nextInt(want.length);
+            DUE.is("byte " + k + " of " + letter, x.got(letter, k), want[k]);
         }
     }
 
@@ -42,12 +51,12 @@ public final class TransferTest {
         boolean check32 = random.nextBoolean();
         x.start(check32, size);
         for (int round = 0; round < BAD_ROUNDS; round++) {
-            spoil(random, x);
+            spoil(random, x, check32);
             if (x.receiver() == 0 && random.nextInt(3) == 0) {
                 x.late(false);
             }
             prefixes(x, sent, seed);
-            spoil(random, x);
+            spoil(random, x, check32);
             if (x.sender() == 0 && random.nextInt(3) == 0) {
                 x.late(true);
             }
@@ -63,9 +72,9 @@ public final class TransferTest {
     /** Over a good line all goes on from what is there, and comes to its end without being late. */
     private static void goodLine(FrameFerry x, boolean check32, int size, int seed) {
         x.start(check32, size);
-        for (int round = 0; round < GOOD_ROUNDS && x.count(0) != 5; round++) {
-            x.receiver();
-            x.sender();
+        int moved = 1;
+        for (int round = 0; round < GOOD_ROUNDS && moved > 0; round++) {
+            moved = x.receiver() + x.sender();
         }
         DUE.is("seed " + seed + ": STATE", x.count(0), 5);
         DUE.is("seed " + seed + ": DONE", x.count(3), 1);
@@ -73,14 +82,18 @@ public final class TransferTest {
         DUE.is("seed " + seed + ": BAD PACKETS", x.count(11), 0);
     }
 
-    /** At most four bytes are lost at once: a whole packet has more, and without one no check would tell. */
-    private static void spoil(Random random, FrameFerry x) {
+    /**
+     * At most four bytes are lost at once: a whole packet has more, and without one no check would tell.
+     * With CHECK 16, which is begun with 0, none are lost in DOWN: it does not tell of a lost 24 before an
+     * END, nor of a lost 0 at the beginning.
+     */
+    private static void spoil(Random random, FrameFerry x, boolean check32) {
         boolean down = random.nextBoolean();
         int many = x.count(down ? 6 : 7);
         if (many == 0 || random.nextBoolean()) {
             return;
         }
-        if (random.nextBoolean()) {
+        if (random.nextBoolean() || down && !check32) {
             x.flip(down, random.nextInt(many), random.nextInt(8));
         } else {
             x.lose(down, random.nextInt(many), 1 + random.nextInt(4));
@@ -102,7 +115,7 @@ public final class TransferTest {
     /** Any calls with any numbers: nothing but the exceptions of the document ever comes out. */
     private static void anyCalls(Random random, int seed) {
         FrameFerry x = new FrameFerry();
-        for (int i = 0; i < 512; i++) {
+        for (int i = 0; i < 490; i++) {
             try {
                 call(random, x);
             } catch (IllegalArgumentException | IllegalStateException e) {
@@ -128,7 +141,7 @@ public final class TransferTest {
 
     private static void call(Random random, FrameFerry x) {
         boolean side = random.nextBoolean();
-        switch (random.nextInt(16)) {
+        switch (random.nextInt(17)) {
             case 0: x.open(any(random, 26)); break;
             case 1: x.feed(any(random, 16), random.nextInt(), random.nextInt(), random.nextInt(), 0); break;
             case 2: x.clear(); break;
@@ -139,7 +152,8 @@ public final class TransferTest {
             case 11: x.crash(); break;
             case 12: x.flip(side, any(random, 60), any(random, 7)); break;
             case 13: x.lose(side, any(random, 60), any(random, 9)); break;
-            case 14: x.pipe(side, any(random, 60)); x.got(any(random, 25), any(random, 300)); break;
+            case 14: x.pipe(side, any(random, 60)); break;
+            case 15: x.got(any(random, 25), any(random, 300)); break;
             default: x.count(any(random, 11)); break;
         }
     }
