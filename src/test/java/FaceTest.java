@@ -1,60 +1,83 @@
 import java.lang.reflect.Constructor;
+import java.lang.reflect.Executable;
 import java.lang.reflect.Field;
 import java.lang.reflect.Method;
 import java.lang.reflect.Modifier;
+import java.nio.file.Path;
 import java.util.Set;
 import java.util.TreeSet;
 
-/** The public face, and no more than it. */
+/** The public face as the document has it, and no more than it. */
 public final class FaceTest {
     private static final Due DUE = new Due();
+    private static final String BEGIN = "public final class FrameFerry {\n";
 
-    private static final String[] FACE = {
-        "int open(int)", "int feed(int,int,int,int,int)", "int clear()", "void start(boolean,int)",
-        "int sender()", "int receiver()", "int late(boolean)", "void crash()",
-        "boolean flip(boolean,int,int)", "int lose(boolean,int,int)", "int pipe(boolean,int)",
-        "int got(int,int)", "int count(int)"};
-
-    public static void main(String[] args) {
-        methodsAreTheFace();
-        fieldsAreTheFace();
-        namesAreApart();
+    public static void main(String[] args) throws IllegalAccessException {
+        Set<String> due = documentsFace();
+        Set<String> seen = face();
+        for (String line : due) {
+            DUE.is("it has " + line, seen.contains(line), true);
+        }
+        for (String line : seen) {
+            DUE.is("the document has " + line, due.contains(line), true);
+        }
+        DUE.is("lines of the face", due.size(), 15);
         DUE.is("public and final", FrameFerry.class.getModifiers(), Modifier.PUBLIC | Modifier.FINAL);
+        DUE.is("NONE", FrameFerry.NONE, -1);
+        fieldsAreHidden();
+        namesAreApart();
         DUE.end();
     }
 
-    private static void methodsAreTheFace() {
-        Set<String> want = new TreeSet<>(Set.of(FACE));
-        Set<String> seen = new TreeSet<>();
+    /** The lines of the document's section, without the names of the arguments. */
+    private static Set<String> documentsFace() {
+        Set<String> lines = new TreeSet<>();
+        String all = Doc.read(Path.of("..", "shared", "DOC.md"));
+        if (all == null || !all.contains(BEGIN)) {
+            DUE.tell("the document's face is not at hand");
+            return lines;
+        }
+        int from = all.indexOf(BEGIN) + BEGIN.length();
+        for (String line : all.substring(from, all.indexOf("\n}", from)).split("\n")) {
+            lines.add(line.trim().replace(";", "").replaceAll("\\b(int|boolean) \\w+(?=[,)])", "$1"));
+        }
+        return lines;
+    }
+
+    private static Set<String> face() throws IllegalAccessException {
+        Set<String> lines = new TreeSet<>();
         for (Method method : FrameFerry.class.getDeclaredMethods()) {
             if (!Modifier.isPrivate(method.getModifiers())) {
-                seen.add(told(method));
+                lines.add(told(method, method.getReturnType() + " " + method.getName()));
             }
         }
-        if (!seen.equals(want)) {
-            DUE.tell("the face is " + seen);
+        for (Constructor<?> made : FrameFerry.class.getDeclaredConstructors()) {
+            lines.add(told(made, "FrameFerry"));
         }
-        Constructor<?>[] made = FrameFerry.class.getDeclaredConstructors();
-        DUE.is("constructors", made.length, 1);
-        DUE.is("its arguments", made[0].getParameterCount(), 0);
-        DUE.is("it is public", Modifier.isPublic(made[0].getModifiers()), true);
-    }
-
-    private static String told(Method method) {
-        StringBuilder text = new StringBuilder();
-        text.append(method.getReturnType()).append(' ').append(method.getName()).append('(');
-        String between = "";
-        for (Class<?> type : method.getParameterTypes()) {
-            text.append(between).append(type);
-            between = ",";
-        }
-        return text.append(')').toString();
-    }
-
-    private static void fieldsAreTheFace() {
         for (Field field : FrameFerry.class.getDeclaredFields()) {
-            boolean open = !Modifier.isPrivate(field.getModifiers());
-            DUE.is("seen from outside: " + field.getName(), open, field.getName().equals("NONE"));
+            if (!Modifier.isPrivate(field.getModifiers())) {
+                lines.add(Modifier.toString(field.getModifiers()) + " " + field.getType() + " " + field.getName()
+                    + " = " + field.get(null));
+            }
+        }
+        return lines;
+    }
+
+    private static String told(Executable call, String name) {
+        return Modifier.toString(call.getModifiers()) + " " + name + "(" + row(call.getParameterTypes()) + ")"
+            + (call.getExceptionTypes().length == 0 ? "" : " throws " + row(call.getExceptionTypes()));
+    }
+
+    private static String row(Class<?>[] types) {
+        StringBuilder text = new StringBuilder();
+        for (Class<?> type : types) {
+            text.append(text.length() == 0 ? "" : ", ").append(type.getSimpleName());
+        }
+        return text.toString();
+    }
+
+    private static void fieldsAreHidden() {
+        for (Field field : FrameFerry.class.getDeclaredFields()) {
             boolean loose = Modifier.isStatic(field.getModifiers()) && !Modifier.isFinal(field.getModifiers());
             DUE.is("static and not final: " + field.getName(), loose, false);
         }
